@@ -46,8 +46,8 @@ public final class LoopLane {
     private static final int MOST_EDGES = 720;
     /** Each step of the search is a trial or a way back from one, so 6002 are the most. */
     private static final int MOST_STEPS = 10000;
-    /** Stands in a matrix where no edge leads from one act to another. */
-    private static final int APART = Integer.MIN_VALUE;
+    /** Stands in a matrix where no edge leads from one act to another, far below any wait. */
+    private static final int APART = -1000000;
 
     /** How a search at one beat ended, in the numbers that prove() answers. */
     private static final int FOUND = 0;
@@ -65,7 +65,10 @@ public final class LoopLane {
     private final Judge judge;
     private final Runner runner;
     private final Outcome told;
-    private final Refusals refusals;
+    /** The latest refusal that again() has not answered yet, or 0. */
+    private int kept;
+    /** How many calls each refusal answered, by its number without the sign. */
+    private final int[] refused;
 
     public LoopLane() {
         body = new Body();
@@ -77,16 +80,17 @@ public final class LoopLane {
         judge = new Judge();
         runner = new Runner(body, rows, laying);
         told = new Outcome();
-        refusals = new Refusals();
+        kept = 0;
+        refused = new int[1 - SPENT];
     }
 
     // ---- the body
 
     public int put(long v) {
-        if (body.isFull()) {
+        int a = body.open(PUT);
+        if (a == NONE) {
             return refuse(FULL);
         }
-        int a = body.open(PUT);
         body.number[a] = v;
         bodyChanged();
         return a;
@@ -99,10 +103,10 @@ public final class LoopLane {
         if (!body.mayTake(x, dx) || !body.mayTake(y, dy)) {
             return refuse(BEYOND);
         }
-        if (body.isFull()) {
+        int a = body.open(sort);
+        if (a == NONE) {
             return refuse(FULL);
         }
-        int a = body.open(sort);
         body.take(a, 0, x, dx);
         body.take(a, 1, y, dy);
         bodyChanged();
@@ -116,10 +120,10 @@ public final class LoopLane {
         if (!isSlot(s) || !body.mayTake(x, dx)) {
             return refuse(BEYOND);
         }
-        if (body.isFull()) {
+        int a = body.open(FETCH);
+        if (a == NONE) {
             return refuse(FULL);
         }
-        int a = body.open(FETCH);
         body.slot[a] = s;
         body.take(a, 0, x, dx);
         bodyChanged();
@@ -133,10 +137,10 @@ public final class LoopLane {
         if (!isSlot(s) || !body.mayTake(x, dx) || !body.mayTake(y, dy)) {
             return refuse(BEYOND);
         }
-        if (body.isFull()) {
+        int a = body.open(STORE);
+        if (a == NONE) {
             return refuse(FULL);
         }
-        int a = body.open(STORE);
         body.slot[a] = s;
         body.take(a, 0, x, dx);
         body.take(a, 1, y, dy);
@@ -151,10 +155,10 @@ public final class LoopLane {
         if (!body.mayTake(x, 0) || !body.mayTake(y, 0) || !body.mayTake(z, dz)) {
             return refuse(BEYOND);
         }
-        if (body.isFull()) {
+        int a = body.open(PICK);
+        if (a == NONE) {
             return refuse(FULL);
         }
-        int a = body.open(PICK);
         body.take(a, 0, x, 0);
         body.take(a, 1, y, 0);
         body.take(a, 2, z, dz);
@@ -550,20 +554,30 @@ public final class LoopLane {
     // ---- refusals
 
     public int again() {
-        return refusals.rethrow();
+        if (kept == 0) {
+            refused[-NOTHING]++;
+            return NOTHING;
+        }
+        int refusal = kept;
+        kept = 0;
+        return refusal;
     }
 
     public int status(int by) {
         if (by < SPENT || by > MISSING) {
             return refuse(NO);
         }
-        return refusals.times[-by];
+        return refused[-by];
     }
 
     // ---- what the face is made of
 
     private int refuse(int refusal) {
-        return refusals.keep(refusal);
+        if (refusal >= SPENT && refusal <= MISSING) {
+            kept = refusal;
+            refused[-refusal]++;
+        }
+        return refusal;
     }
 
     /** What was laid and told speaks of a body that is no more. */
@@ -656,10 +670,6 @@ public final class LoopLane {
             Arrays.fill(units, 1);
         }
 
-        boolean isFull() {
-            return acts >= MOST_ACTS;
-        }
-
         boolean has(int a) {
             return a >= 0 && a < acts;
         }
@@ -669,11 +679,11 @@ public final class LoopLane {
             return x >= 0 && x < MOST_ACTS && (turns > 0 || x < acts);
         }
 
-        /** Ahead of this isFull() must have been asked. */
+        /** The number of a new act, which has no operands yet; NONE if there is no room for it. */
         int open(int newSort) {
             int a = acts;
             if (a >= MOST_ACTS) {
-                return MOST_ACTS - 1;
+                return NONE;
             }
             acts = a + 1;
             sort[a] = newSort;
@@ -1552,28 +1562,6 @@ public final class LoopLane {
 
         private static int placeOf(int a, int t) {
             return (MOST_BACK + t) * MOST_ACTS + a;
-        }
-    }
-
-    /** The latest refusal, until it is thrown once more, and how often each one came. */
-    static final class Refusals {
-        private int latest = 0;
-        final int[] times = new int[1 - SPENT];
-
-        int keep(int refusal) {
-            latest = refusal;
-            times[-refusal]++;
-            return refusal;
-        }
-
-        int rethrow() {
-            if (latest == 0) {
-                times[-NOTHING]++;
-                return NOTHING;
-            }
-            int refusal = latest;
-            latest = 0;
-            return refusal;
         }
     }
 }
