@@ -1557,7 +1557,7 @@ public final class LoopLane {
 
         private long taken(int a, int which, int t) {
             int at = a * OPERANDS + which;
-            return ends[placeOf(body.operand[at], t - body.back[at])];
+            return ends[(MOST_BACK + t - body.back[at]) * MOST_ACTS + body.operand[at]];
         }
 
         private static int placeOf(int a, int t) {

@@ -15,6 +15,7 @@ public final class BeatsTest {
         trialsAreOfTheLatest();
         layingAndTicks();
         boundsByEdgesAlone();
+        stagesAtBeatOne();
         filledUnits();
         namesOfEnds();
         forgedForCheckAlone();
@@ -331,6 +332,36 @@ public final class BeatsTest {
         due("26: and then act 3", x.tick(3, 3), 42);
         due("26: act 0 waits for none", x.tick(0, 4), 0);
         due("26: act 1 may wait", x.tick(1, 4), 41);
+
+        LoopLane y = puts(3);
+        y.edge(1, 0, 6, 0);
+        y.lay();
+        due("26: act 0 is behind act 1", y.tick(0, 3), 6);
+        due("26: so act 1 can't wait", y.tick(1, 4), 0);
+        due("26: act 2 may wait for the end", y.tick(2, 4), 6);
+        due("26: but need not", y.tick(2, 3), 0);
+    }
+
+    private static void stagesAtBeatOne() {
+        LoopLane x = puts(1);
+        x.unit(0, 4);
+        x.works(0, 5, 0, 1);
+        x.reckon(1, 0, 0, 2, 3);
+        x.works(1, 2, 0, 1);
+        x.reckon(1, 1, 0, 0, 0);
+        due("22: lay", x.lay(), 1);
+        due("24: each at once", x.trials(), 3);
+        int[] stages = {0, 5, 7};
+        for (int a = 0; a < 3; a++) {
+            due("26: tick(" + a + ", 0)", x.tick(a, 0), 0);
+            due("26: tick(" + a + ", 1)", x.tick(a, 1), stages[a]);
+            due("26: tick(" + a + ", 2)", x.tick(a, 2), stages[a]);
+        }
+        due("27: all at one tick", x.filled(0, 0), 3);
+        due("25: stages", x.laying(1), 8);
+        due("28: 7 and 1", x.names(0), 8);
+        due("28: 2 and 1", x.names(1), 3);
+        due("28: 5 + 3 - 7 and 1", x.names(2), 2);
     }
 
     private static void filledUnits() {

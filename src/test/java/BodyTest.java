@@ -234,6 +234,11 @@ public final class BodyTest {
         x.check();
         due("11: the first that stays", x.wrong(1), 1);
 
+        LoopLane z = new LoopLane();
+        z.fetch(0, 1, 1);
+        z.put(1);
+        due("11: the x of act 0", z.undo(), NO);
+
         LoopLane y = puts(1);
         y.reckon(1, 1, 1, 9, 1);
         due("11: one that does not stand is in the way of none", y.undo(), 1);
@@ -277,11 +282,12 @@ public final class BodyTest {
         due("14: another", x.count(5), NO);
         due("14: another", x.count(-1), NO);
 
-        LoopLane y = puts(1);
-        for (int i = 0; i < 15; i++) {
-            y.store(2, 0, 0, 0, 0);
+        LoopLane y = new LoopLane();
+        for (int i = 0; i < 16; i++) {
+            y.store(2, 0, 1, 0, 1);
         }
-        due("14: fifteen stores", y.count(2), 30 + 105 * 2 + 15 + 105 * 3);
+        due("14: sixteen stores", y.count(3), 16);
+        due("14: their edges", y.count(2), 32 + 120 * 2 + 16 + 120 * 3);
     }
 
     private static void wholeNeedsAllOperands() {
@@ -294,6 +300,9 @@ public final class BodyTest {
         due("15: now it is", x.whole(), 1);
         x.pick(0, 0, 4, 1);
         due("15: z counts", x.whole(), 0);
+        LoopLane y = new LoopLane();
+        y.fetch(0, 1, 1);
+        due("15: the x of act 0 counts", y.whole(), 0);
     }
 
     /** Terms, 5: what takes the laying away, and what run() told. */

@@ -270,10 +270,20 @@ public final class SideBySideTest {
         same("first(1, " + from + ")", lane.first(1, from), naive.first(1, from));
     }
 
+    /** With many units beats are short, down to 1, and stages are many. */
+    private void beginWithAllUnits() {
+        for (int kind = 0; kind < 6; kind++) {
+            same("unit(" + kind + ", 4)", lane.unit(kind, 4), naive.unit(kind, 4));
+        }
+    }
+
     private void go() {
         int bigger = 4 + dice.nextInt(14);
         if (counts) {
             beginWithCounter();
+        }
+        if (seed % 4 == 0) {
+            beginWithAllUnits();
         }
         for (int call = 0; call < CALLS; call++) {
             int turn = dice.nextInt(100);
