@@ -553,9 +553,9 @@ public final class LoopLane {
 
     // ---- refusals
 
+    /** NOTHING is no refusal: it tells that there is none, so it is neither counted nor kept. */
     public int again() {
         if (kept == 0) {
-            refused[-NOTHING]++;
             return NOTHING;
         }
         int refusal = kept;

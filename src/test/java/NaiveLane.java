@@ -656,10 +656,7 @@ final class NaiveLane {
     }
 
     int again() {
-        if (kept == null) {
-            refused.merge(NOTHING, 1, Integer::sum);
-            return NOTHING;
-        }
+        if (kept == null) return NOTHING;
         int by = kept;
         kept = null;
         return by;

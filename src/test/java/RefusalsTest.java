@@ -24,8 +24,10 @@ public final class RefusalsTest {
         x.count(0);
         due("37: the latest one", x.again(), BELOW);
         due("37: there is none any more", x.again(), NOTHING);
-        due("38: again() is counted where it is refused itself", x.status(NOTHING), 2);
-        due("38: not where it answers one", x.status(BELOW), 1);
+        due("37: nor was the NOTHING kept", x.again(), NOTHING);
+        due("38: NOTHING is no refusal", x.status(NOTHING), 0);
+        due("37: asking for how many is none either", x.again(), NOTHING);
+        due("38: again() is not counted where it answers one", x.status(BELOW), 1);
         x.get(0, 0);
         due("37: of get()", x.again(), MISSING);
         x.end(0);
