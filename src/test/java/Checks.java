@@ -134,7 +134,10 @@ abstract class Checks {
         due(call + ", then again()", x.again(), NOTHING);
     }
 
-    /** All that can be seen of an object but again() and status(); it is not the same behind that. */
+    /**
+     * All that can be seen of an object but again() and status(), by 440 calls at most, since no more
+     * than 512 are promised to an object; it is not the same behind that.
+     */
     static String picture(LoopLane x) {
         StringBuilder seen = new StringBuilder();
         seen.append("trials ").append(x.trials());
@@ -162,7 +165,8 @@ abstract class Checks {
     }
 
     private static void seeActs(LoopLane x, StringBuilder seen) {
-        for (int a = 0; a < x.count(0); a++) {
+        int acts = x.count(0);
+        for (int a = 0; a < acts; a++) {
             int act = a;
             seeParts(seen, " act" + a, 11, what -> x.act(act, what));
             seen.append(" number ").append(x.number(a)).append(" end ").append(x.end(a));
@@ -178,17 +182,19 @@ abstract class Checks {
     }
 
     private static void seeLaying(LoopLane x, StringBuilder seen) {
+        int beat = x.laying(0);
+        int acts = beat > 0 ? x.count(0) : 0;
         seen.append(" lowest ").append(x.lowest());
         seeParts(seen, " laying", 3, x::laying);
         seeParts(seen, " fewest", 2, x::fewest);
-        for (int a = 0; a < x.count(0) && x.laying(0) > 0; a++) {
+        for (int a = 0; a < acts; a++) {
             int act = a;
             seeParts(seen, " tick" + a, 5, what -> x.tick(act, what));
             seen.append(" names ").append(x.names(a));
         }
         for (int kind = 0; kind < 6; kind++) {
             int of = kind;
-            seeParts(seen, " filled" + kind, Math.min(3, Math.max(0, x.laying(0))), t -> x.filled(of, t));
+            seeParts(seen, " filled" + kind, Math.min(3, Math.max(0, beat)), t -> x.filled(of, t));
         }
     }
 

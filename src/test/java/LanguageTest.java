@@ -1,4 +1,5 @@
 import java.io.IOException;
+import java.lang.reflect.Array;
 import java.lang.reflect.Constructor;
 import java.lang.reflect.Field;
 import java.lang.reflect.Member;
@@ -8,6 +9,8 @@ import java.nio.file.Files;
 import java.nio.file.Path;
 import java.util.ArrayList;
 import java.util.Arrays;
+import java.util.Collections;
+import java.util.IdentityHashMap;
 import java.util.List;
 import java.util.Set;
 import java.util.TreeSet;
@@ -25,9 +28,14 @@ public final class LanguageTest {
             + " unit(int,int) whole() works(int,int,int,int) wrong(int)";
     private static final Set<String> LONGS = Set.of("number", "get", "end");
 
-    public static void main(String[] args) throws IOException {
+    /** Of one run's room: elements in all, and calls, each of which might make an object. */
+    private static final int ROOM = 7_300_000;
+    private static final int CALLS = 512;
+
+    public static void main(String[] args) throws IOException, IllegalAccessException {
         theFaceIsTheDocuments();
         theClassesInside();
+        theRoom();
         theText(Files.readString(Path.of(args[0], "src/main/java/LoopLane.java")));
         Due.finish("LanguageTest");
     }
@@ -91,6 +99,32 @@ public final class LanguageTest {
         }
     }
 
+    private static void theRoom() throws IllegalAccessException {
+        Set<Object> seen = Collections.newSetFromMap(new IdentityHashMap<>());
+        int elements = elementsOf(new LoopLane(), seen);
+        Due.holds("12: room for 512 objects of " + elements, elements * CALLS <= ROOM);
+        Due.holds("12: not too many arrays: " + seen.size(), seen.size() * CALLS <= 600_000);
+    }
+
+    /** Fields and elements of an object and of all that it holds. */
+    private static int elementsOf(Object held, Set<Object> seen) throws IllegalAccessException {
+        if (held == null || !seen.add(held)) {
+            return 0;
+        }
+        if (held.getClass().isArray()) {
+            Due.holds("3: arrays of numbers", held.getClass().getComponentType().isPrimitive());
+            return Array.getLength(held);
+        }
+        int elements = 0;
+        for (Field f : held.getClass().getDeclaredFields()) {
+            if (!Modifier.isStatic(f.getModifiers())) {
+                f.setAccessible(true);
+                elements += 1 + (f.getType().isPrimitive() ? 0 : elementsOf(f.get(held), seen));
+            }
+        }
+        return elements;
+    }
+
     private static void theText(String text) {
         String code = text.replaceAll("(?s)/\\*.*?\\*/", "").replaceAll("//[^\n]*", "");
         for (String word : "throw try catch synchronized assert package while do Exact Object".split(" ")) {
@@ -105,6 +139,10 @@ public final class LanguageTest {
         Matcher imports = Pattern.compile("(?m)^import (.*);").matcher(code);
         while (imports.find()) {
             Due.holds("4: import " + imports.group(1), imports.group(1).equals("java.util.Arrays"));
+        }
+        for (String line : code.split("\n")) {
+            boolean made = line.matches("\\s+(private )?final .* = new .*;|\\s+\\w+ = new .*;");
+            Due.holds("12: made where an object is made: " + line, made || !line.contains("new "));
         }
         Due.holds("no lambda, no method reference", !code.contains("->") && !code.contains("::"));
         methodsStayShort(code);

@@ -737,6 +737,9 @@ public final class Promises1To15Test extends Checks {
         x = new LoopLane();
         x.reckon(1, 0, 1, 0, 4);
         due("its own", x.whole(), 1);
+        x = new LoopLane();
+        x.fetch(0, 1, 1);
+        due("the x of act 0 does not stand", x.whole(), 0);
     }
 
     private static void unwhole(LoopLane x) {

@@ -373,6 +373,15 @@ public final class Promises21To32Test extends Checks {
         x.lay();
         bounds(x, 0, 7, 7);
         bounds(x, 1, 0, 0);
+        x = apart(4);
+        x.edge(2, 1, 3, 0);
+        x.edge(1, 0, 4, 0);
+        x.edge(3, 1, -2, 0);
+        x.lay();
+        bounds(x, 2, 0, 0);
+        bounds(x, 1, 3, 3);
+        bounds(x, 0, 7, 7);
+        bounds(x, 3, 0, 5);
     }
 
     private static void tickRefused() {
@@ -488,6 +497,10 @@ public final class Promises21To32Test extends Checks {
         x.reckon(1, 0, 1, 0, 4);
         x.lay();
         due("its own of 4 before", x.names(0), 5);
+        x = new LoopLane();
+        x.fetch(0, 0, 3);
+        x.lay();
+        due("as x of act 0: 3", x.names(0), 4);
         x = puts(1);
         x.store(0, 0, 0, 0, 2);
         x.works(0, 1, 1, 1);
@@ -625,6 +638,29 @@ public final class Promises21To32Test extends Checks {
         due("5 at tick 0", x.check(), 2);
         x.forge(15, 3000 - 1);
         due("4 at each tick, 2999 is 3 of 4", x.check(), 0);
+        x = apart(6);
+        x.unit(1, 4);
+        x.edge(0, 2, 30, 0);
+        x.edge(2, 0, 30, 1);
+        addPuts(x, 3);
+        for (int a = 6; a < 9; a++) {
+            x.works(a, 1, 1, 1);
+        }
+        due("lay()", x.lay(), 60);
+        due("right at the greatest beat", x.check(), 0);
+        x.forge(5, 59);
+        due("at its last tick", x.check(), 0);
+        x.unit(1, 3);
+        x.lay();
+        x.forge(8, 0);
+        due("not right at the greatest beat", x.check(), 2);
+        x = puts(3);
+        x.edge(2, 0, 50, 0);
+        x.lay();
+        x.undo();
+        x.lay();
+        x.forge(0, 0);
+        due("an edge that went with its act", x.check(), 0);
     }
 
     private static void checkRefused() {

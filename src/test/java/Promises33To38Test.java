@@ -42,6 +42,17 @@ public final class Promises33To38Test extends Checks {
         x.lay();
     }
 
+    private static void walksAndStores(LoopLane x, int places) {
+        walks(x, places);
+        x.row(1, 40, true);
+        x.store(1, 0, 0, 1, 0);
+        x.store(0, 1, 0, 0, 0);
+        x.lay();
+        x.set(0, 0, 7);
+        x.set(1, 1, 8);
+        x.run(2, false);
+    }
+
     private static LoopLane walker(int places) {
         return after(x -> walks(x, places));
     }
@@ -93,20 +104,14 @@ public final class Promises33To38Test extends Checks {
     private static void compare() {
         sentence("Promise 34", "Both from the same ROWS, which stay: 1 if they come to the same (ROWS, refusal, TURNS done whole, ENDS of the last of these), else 0; nothing is told anew.");
         for (int places : new int[] {1, 10, 40}) {
-            LoopLane x = walker(places);
-            x.row(1, 40, true);
-            x.store(1, 0, 0, 1, 0);
-            x.store(0, 1, 0, 0, 0);
-            x.lay();
-            x.set(0, 0, 7);
-            x.set(1, 1, 8);
-            x.run(2, false);
-            String before = rowsAndTold(x);
             for (int n : new int[] {0, 1, 2, places - 1, places, places + 1, 200}) {
+                LoopLane x = after(y -> walksAndStores(y, places));
+                String before = rowsAndTold(x);
                 taken("compare(" + n + ")", x, y -> y.compare(n), 1);
                 Due.same("rows and what was told", rowsAndTold(x), before);
             }
         }
+        everyRowStays();
         LoopLane x = walker(3);
         taken("nothing was run", x, y -> y.compare(200), 1);
         told(x, "nothing is told", 0, NONE, NONE, 0, 0, 0);
@@ -114,6 +119,36 @@ public final class Promises33To38Test extends Checks {
         x.forge(2, 0);
         x.check();
         taken("forged, it goes by the laying", x, y -> y.compare(200), 1);
+    }
+
+    /** Both runs store at the first and the last place of each slot. */
+    private static void everyRowStays() {
+        LoopLane x = new LoopLane();
+        x.put(0);
+        x.put(39);
+        for (int s = 0; s < 7; s++) {
+            x.row(s, 40, true);
+            x.set(s, 0, 100 + s);
+            x.set(s, 39, 200 + s);
+            x.store(s, 0, 0, 1, 0);
+            x.store(s, 1, 0, 0, 0);
+        }
+        due("lay()", x.lay(), 16);
+        due("compare(20)", x.compare(20), 1);
+        for (int s = 0; s < 7; s++) {
+            due("get(" + s + ", 0)", x.get(s, 0), 100 + s);
+            due("get(" + s + ", 39)", x.get(s, 39), 200 + s);
+        }
+        x.run(20, true);
+        due("it does store", x.get(6, 39), 0);
+        x = new LoopLane();
+        x.row(7, 40, true);
+        x.set(7, 39, 5);
+        x.put(39);
+        x.store(7, 0, 0, 0, 0);
+        x.lay();
+        due("compare(20)", x.compare(20), 1);
+        due("get(7, 39)", x.get(7, 39), 5);
     }
 
     private static String rowsAndTold(LoopLane x) {

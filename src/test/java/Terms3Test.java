@@ -382,6 +382,43 @@ public final class Terms3Test extends Checks {
         due("16 in 1", x.lay(), 16);
         laid(x, 1, 8, 0);
         due("ticks 0 .. 8", x.trials(), 1 + 9);
+        ringsThroughActsSoFar();
+    }
+
+    /** At a beat of 5 and ticks of 0 a wait of 7 ticks takes two stages, one of 1 tick takes one. */
+    private static void ringsThroughActsSoFar() {
+        LoopLane x = apart(3);
+        x.edge(0, 0, 5, 1);
+        x.edge(0, 1, 7, 0);
+        x.edge(1, 2, 1, 0);
+        x.edge(2, 0, 1, 3);
+        due("lay()", x.lay(), 5);
+        due("trials: by act 1 act 2 can't be at 0", x.trials(), 1 + 1 + 2);
+        laid(x, 1, 0, 2);
+        laid(x, 2, 1, 2);
+        x = apart(4);
+        x.edge(0, 0, 5, 1);
+        x.edge(0, 2, 7, 0);
+        x.edge(2, 1, 1, 0);
+        x.edge(1, 3, 1, 0);
+        x.edge(3, 0, 1, 4);
+        due("lay()", x.lay(), 5);
+        due("trials: by 0, 2, 1 act 3 can't be at 0", x.trials(), 1 + 1 + 1 + 2);
+        laid(x, 1, 0, 3);
+        laid(x, 2, 0, 2);
+        laid(x, 3, 1, 3);
+        x = apart(4);
+        x.edge(0, 0, 5, 1);
+        x.edge(1, 2, 7, 0);
+        x.edge(2, 0, 1, 0);
+        x.edge(0, 3, 1, 0);
+        x.edge(3, 1, 1, 4);
+        due("lay()", x.lay(), 5);
+        due("trials: by 1, 2, 0 act 3 can't be at 0", x.trials(), 1 + 1 + 1 + 2);
+        laid(x, 0, 0, 3);
+        laid(x, 1, 0, 0);
+        laid(x, 2, 0, 2);
+        laid(x, 3, 1, 3);
     }
 
     private static void backToTheActBefore() {
@@ -437,6 +474,28 @@ public final class Terms3Test extends Checks {
         x.edge(0, 1, 9, 2);
         due("lay()", x.lay(), 5);
         laid(x, 1, 0, 0);
+        x = apart(5);
+        x.edge(0, 0, 5, 1);
+        x.edge(3, 1, 6, 0);
+        x.edge(1, 4, 3, 0);
+        x.edge(4, 0, 1, 0);
+        x.edge(2, 4, 26, 0);
+        due("lay()", x.lay(), 5);
+        // by acts that come behind them: 3, 1, 4, 0 are 0, 2, 3, 4; by 2 act 4 is 6, act 0 is 7
+        laid(x, 1, 0, 2);
+        laid(x, 2, 0, 0);
+        laid(x, 3, 0, 0);
+        laid(x, 4, 0, 6);
+        laid(x, 0, 0, 7);
+        x = apart(3);
+        x.edge(0, 0, 5, 1);
+        x.edge(0, 1, 17, 0);
+        x.edge(0, 2, 1, 0);
+        x.edge(2, 1, 1, 0);
+        due("lay()", x.lay(), 5);
+        // by act 2 it would be 2
+        laid(x, 1, 0, 4);
+        laid(x, 2, 0, 1);
     }
 
     /**
